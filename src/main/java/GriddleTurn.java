@@ -912,28 +912,35 @@ public final class GriddleTurn {
             return high == 1 ? pile[0] : 0;
         }
 
-        private static int joined(int op, int a, int b) {
+        /** A truth is 0 or 1, so that keeping it within the bounds of a sum changes nothing. */
+        private static int joined(int op, long a, long b) {
+            long v;
             switch (op) {
                 case PLUS:
-                    return kept((long) a + b);
+                    v = a + b;
+                    break;
                 case MINUS:
-                    return kept((long) a - b);
+                    v = a - b;
+                    break;
                 case TIMES:
-                    return kept((long) a * b);
+                    v = a * b;
+                    break;
                 case LIKE:
-                    return a == b ? 1 : 0;
+                    v = a == b ? 1 : 0;
+                    break;
                 case LESS:
-                    return a < b ? 1 : 0;
+                    v = a < b ? 1 : 0;
+                    break;
                 case MORE:
-                    return a > b ? 1 : 0;
+                    v = a > b ? 1 : 0;
+                    break;
                 case AND:
-                    return a & b;
+                    v = a & b;
+                    break;
                 default:
-                    return a | b;
+                    v = a | b;
+                    break;
             }
-        }
-
-        private static int kept(long v) {
             return (int) Math.max(-GREATEST, Math.min(GREATEST, v));
         }
     }
@@ -978,30 +985,31 @@ public final class GriddleTurn {
     private static final class Reader {
         private static final int MOST_WITHIN = 6;
         private static final String SIGNS = ";:+-*()[]=<>";
+        /** A word's kind is its place here, FACT being the first, those of a law's facts in their order. */
+        private static final String WORDS =
+                "top under up heat many right plate cake may habit if then else end not and or ";
 
         // The kinds of tokens; a sign's kind is its own byte.
         private static final int NO_TOKEN = 256;
         private static final int END_OF_TEXT = 257;
         private static final int NUMBER = 258;
         private static final int OTHER_WORD = 259;
-        private static final int PLATE = 260;
-        private static final int CAKE = 261;
-        private static final int MAY = 262;
-        private static final int HABIT = 263;
-        private static final int IF = 264;
-        private static final int THEN = 265;
-        private static final int ELSE = 266;
-        private static final int END = 267;
-        private static final int NOT = 268;
-        private static final int AND = 269;
-        private static final int OR = 270;
-        private static final int FACT = 271;
-        private static final int TOP = FACT + Law.TOP;
-        private static final int UNDER = FACT + Law.UNDER;
+        private static final int FACT = 260;
         private static final int UP = FACT + Law.UP;
         private static final int HEAT = FACT + Law.HEAT;
         private static final int MANY = FACT + Law.MANY;
         private static final int RIGHT = FACT + Law.RIGHT;
+        private static final int PLATE = FACT + 6;
+        private static final int CAKE = FACT + 7;
+        private static final int MAY = FACT + 8;
+        private static final int HABIT = FACT + 9;
+        private static final int IF = FACT + 10;
+        private static final int THEN = FACT + 11;
+        private static final int ELSE = FACT + 12;
+        private static final int END = FACT + 13;
+        private static final int NOT = FACT + 14;
+        private static final int AND = FACT + 15;
+        private static final int OR = FACT + 16;
 
         private final int[] tape = new int[LONGEST_TEXT];
         private int filled;
@@ -1012,6 +1020,7 @@ public final class GriddleTurn {
         private int place;
         private final Plate draft = new Plate();
         private Law law = draft.may;
+        private int factOfOther = RIGHT;
         private int sizesTold;
         private int fault;
         private int faultPlace = NONE;
@@ -1035,12 +1044,18 @@ public final class GriddleTurn {
             sizesTold = 0;
             draft.empty();
             readToken();
-            if (readHead() && readLines()) {
+            boolean fine = readHead();
+            for (int i = 0; i < LONGEST_TEXT && fine && kind != END_OF_TEXT; i++) {
+                draft.lines++;
+                fine = readLine() && expect(';');
+            }
+            if (fine) {
                 checkSizes();
             }
         }
 
         private boolean readHead() {
+            draft.lines = 1;
             return expect(PLATE) && expect(HEAT) && readHeat() && expect(';');
         }
 
@@ -1056,25 +1071,14 @@ public final class GriddleTurn {
             return true;
         }
 
-        private boolean readLines() {
-            draft.lines = 1;
-            for (int i = 0; i < LONGEST_TEXT && kind != END_OF_TEXT; i++) {
-                if (!readLine() || !expect(';')) {
-                    return false;
-                }
-                draft.lines++;
-            }
-            return true;
-        }
-
         private boolean readLine() {
             switch (kind) {
                 case CAKE:
                     return readCake();
                 case MAY:
-                    return startLaw(draft.may) && readTruth(0);
+                    return startLaw(draft.may, RIGHT) && readTruth(0);
                 case HABIT:
-                    return startLaw(draft.habit) && readSum(0);
+                    return startLaw(draft.habit, MANY) && readSum(0);
                 default:
                     return fail(2);
             }
@@ -1109,10 +1113,11 @@ public final class GriddleTurn {
             }
         }
 
-        private boolean startLaw(Law told) {
+        private boolean startLaw(Law told, int wordOfOther) {
             readToken();
             law = told;
             law.begin();
+            factOfOther = wordOfOther;
             return expect(':');
         }
 
@@ -1228,8 +1233,7 @@ public final class GriddleTurn {
         }
 
         private boolean isFactOfLaw() {
-            int otherLaws = law == draft.may ? RIGHT : MANY;
-            return kind >= FACT && kind < FACT + Law.FACTS && kind != otherLaws;
+            return kind >= FACT && kind < FACT + Law.FACTS && kind != factOfOther;
         }
 
         /** Takes one of not [ ( if, unless it were one too many within one another. */
@@ -1264,7 +1268,10 @@ public final class GriddleTurn {
             if (next >= end) {
                 kind = END_OF_TEXT;
             } else if (isLetter(tape[next])) {
-                readWord();
+                while (next < end && isLetter(tape[next])) {
+                    next++;
+                }
+                kind = wordKind();
             } else if (isDigit(tape[next])) {
                 readNumber();
             } else {
@@ -1284,75 +1291,28 @@ public final class GriddleTurn {
             kind = next - place > 3 ? NO_TOKEN : NUMBER;
         }
 
-        private void readWord() {
-            while (next < end && isLetter(tape[next])) {
-                next++;
+        private int wordKind() {
+            int word = FACT;
+            int begin = 0;
+            for (int i = 0; i < WORDS.length(); i++) {
+                if (WORDS.charAt(i) == ' ') {
+                    if (isSpelled(begin, i)) {
+                        return word;
+                    }
+                    word++;
+                    begin = i + 1;
+                }
             }
-            kind = lineWord();
-            if (kind == OTHER_WORD) {
-                kind = lawWord();
-            }
+            return OTHER_WORD;
         }
 
-        private int lineWord() {
-            if (spells("cake")) {
-                return CAKE;
-            }
-            if (spells("up")) {
-                return UP;
-            }
-            if (spells("may")) {
-                return MAY;
-            }
-            if (spells("habit")) {
-                return HABIT;
-            }
-            if (spells("plate")) {
-                return PLATE;
-            }
-            return spells("heat") ? HEAT : OTHER_WORD;
-        }
-
-        private int lawWord() {
-            if (spells("top")) {
-                return TOP;
-            }
-            if (spells("under")) {
-                return UNDER;
-            }
-            if (spells("many")) {
-                return MANY;
-            }
-            if (spells("right")) {
-                return RIGHT;
-            }
-            if (spells("if")) {
-                return IF;
-            }
-            if (spells("then")) {
-                return THEN;
-            }
-            if (spells("else")) {
-                return ELSE;
-            }
-            if (spells("end")) {
-                return END;
-            }
-            if (spells("not")) {
-                return NOT;
-            }
-            if (spells("and")) {
-                return AND;
-            }
-            return spells("or") ? OR : OTHER_WORD;
-        }
-
-        private boolean spells(String word) {
-            if (next - place != word.length()) {
+        /** Whether the token is spelled as the words are from a begin to an end. */
+        private boolean isSpelled(int begin, int stop) {
+            if (next - place != stop - begin) {
                 return false;
             }
-            for (int i = 0; i < word.length(); i++) {
-                if (tape[place + i] != word.charAt(i)) {
+            for (int i = begin; i < stop; i++) {
+                if (tape[place + i - begin] != WORDS.charAt(i)) {
                     return false;
                 }
             }
@@ -1376,7 +1336,6 @@ public final class GriddleTurn {
         private static final int KS = MOST_CAKES + 1;
 
         private int cakes;
-        private int orders;
         private int sides;
         private int all;
         private final int[] sizes = new int[MOST_ORDERS * MOST_CAKES];
@@ -1384,19 +1343,20 @@ public final class GriddleTurn {
         private final int[] orderWork = new int[MOST_ORDERS * KS];
         private final int[] orderRight = new int[MOST_ORDERS];
         private final int[] sidesTurned = new int[MOST_SIDES * KS];
+        private final int[] sidesRight = new int[MOST_SIDES];
         private final int[] row = new int[MOST_CAKES];
 
         Stacks() {
             layOut(1);
         }
 
-        private void layOut(int n) {
+        void layOut(int n) {
             if (n == cakes || n < 1 || n > MOST_CAKES) {
                 return;
             }
             cakes = n;
             sides = 1 << n;
-            orders = 1;
+            int orders = 1;
             for (int i = 2; i <= n; i++) {
                 orders *= i;
             }
@@ -1409,7 +1369,7 @@ public final class GriddleTurn {
                 layOrderTurns(order);
             }
             for (int side = 0; side < sides; side++) {
-                laySideTurns(side);
+                laySide(side);
             }
         }
 
@@ -1464,7 +1424,12 @@ public final class GriddleTurn {
             }
         }
 
-        private void laySideTurns(int side) {
+        private void laySide(int side) {
+            int right = 0;
+            while (right < cakes && sideAt(side, cakes - 1 - right) == 0) {
+                right++;
+            }
+            sidesRight[side] = right;
             for (int k = 0; k <= cakes; k++) {
                 int then = 0;
                 for (int i = 0; i < cakes; i++) {
@@ -1501,47 +1466,48 @@ public final class GriddleTurn {
             return orderOf(told) * sides + side;
         }
 
-        int orderIn(int stack) {
-            return stack < 0 || stack >= all ? 0 : stack >> cakes;
-        }
-
-        int sideIn(int stack) {
-            return stack & sides - 1;
-        }
-
         int sizeAt(int stack, int i) {
-            return i < 0 || i >= cakes ? 0 : sizes[orderIn(stack) * MOST_CAKES + i];
+            if (stack < 0 || stack >= all || i < 0 || i >= cakes) {
+                return 0;
+            }
+            return sizes[(stack >> cakes) * MOST_CAKES + i];
         }
 
         int upAt(int stack, int i) {
-            return i < 0 || i >= cakes ? 0 : sideAt(sideIn(stack), i);
+            return i < 0 || i >= cakes ? 0 : sideAt(stack & sides - 1, i);
         }
 
         int upsOf(int stack) {
-            return Integer.bitCount(sideIn(stack));
+            return Integer.bitCount(stack & sides - 1);
         }
 
         int rightOf(int stack) {
-            return Math.min(orderRight[orderIn(stack)], Integer.numberOfTrailingZeros(sideIn(stack)));
+            if (stack < 0 || stack >= all) {
+                return 0;
+            }
+            return Math.min(orderRight[stack >> cakes], sidesRight[stack & sides - 1]);
         }
 
         /** By a turn of 0 it lies as before. */
         int turnOver(int stack, int k) {
-            if (k < 0 || k > cakes) {
+            if (stack < 0 || stack >= all || k < 0 || k > cakes) {
                 return stack;
             }
-            return orderTurned[orderIn(stack) * KS + k] << cakes | sidesTurned[sideIn(stack) * KS + k];
+            return orderTurned[(stack >> cakes) * KS + k] << cakes | sidesTurned[(stack & sides - 1) * KS + k];
         }
 
         int workOf(int stack, int k) {
-            return k < 0 || k > cakes ? 0 : orderWork[orderIn(stack) * KS + k];
+            if (stack < 0 || stack >= all || k < 0 || k > cakes) {
+                return 0;
+            }
+            return orderWork[(stack >> cakes) * KS + k];
         }
 
         boolean isAtAim(int stack, int aim) {
             if (aim == 0) {
                 return stack == 0;
             }
-            return aim == 1 ? orderIn(stack) == 0 : sideIn(stack) == 0;
+            return aim == 1 ? stack >> cakes == 0 : (stack & sides - 1) == 0;
         }
 
         int upperGreater(int stack) {
@@ -1667,9 +1633,11 @@ public final class GriddleTurn {
             if (allowed[stack] == NONE) {
                 int bits = 0;
                 for (int k = 1; k <= stacks.cakes; k++) {
-                    if (isChartedToTurn(stack, k)) {
-                        bits |= 1 << k;
+                    int set = setOf(stack, stacks.sizeAt(stack, k), k);
+                    if (mayTold[set] == 0) {
+                        mayTold[set] = mayTurn(stack, k, chartedHeat) ? 2 : 1;
                     }
+                    bits |= mayTold[set] - 1 << k;
                 }
                 allowed[stack] = bits;
             }
@@ -1682,27 +1650,15 @@ public final class GriddleTurn {
                 return 0;
             }
             if (following[stack] == NONE) {
-                int k = chartedHabit(stack);
-                boolean turns = k > 0 && isChartedToTurn(stack, k);
+                int set = setOf(stack, stacks.sizeAt(stack, stacks.cakes - 1), stacks.rightOf(stack));
+                if (habitTold[set] == 0) {
+                    habitTold[set] = habitTells(stack, chartedHeat) + 1;
+                }
+                int k = habitTold[set] - 1;
+                boolean turns = (allowedAt(stack) >> k & 1) != 0;
                 following[stack] = turns ? stacks.turnOver(stack, k) : stack;
             }
             return following[stack];
-        }
-
-        private boolean isChartedToTurn(int stack, int k) {
-            int set = setOf(stack, stacks.sizeAt(stack, k), k);
-            if (mayTold[set] == 0) {
-                mayTold[set] = mayTurn(stack, k, chartedHeat) ? 2 : 1;
-            }
-            return mayTold[set] == 2;
-        }
-
-        private int chartedHabit(int stack) {
-            int set = setOf(stack, stacks.sizeAt(stack, stacks.cakes - 1), stacks.rightOf(stack));
-            if (habitTold[set] == 0) {
-                habitTold[set] = habitTells(stack, chartedHeat) + 1;
-            }
-            return habitTold[set] - 1;
         }
 
         private int setOf(int stack, int under, int last) {
@@ -2117,7 +2073,10 @@ public final class GriddleTurn {
                 if (bits == 0) {
                     return NONE;
                 }
-                k = Integer.numberOfTrailingZeros(bits);
+                k = 1;
+                while (k < stacks.cakes && (bits >> k & 1) == 0) {
+                    k++;
+                }
                 stack = stacks.turnOver(stack, k);
             }
             return k;

@@ -245,6 +245,12 @@ public final class PlateTest {
         truth("not 1=2 and 1=2", 1, 2);
         truth("not [1=2 and 1=2]", 1, 0);
         truth("not not 1=2", 1, 2);
+        String deep = "1";
+        for (int i = 0; i < 6; i++) {
+            deep = "if 1=2 or 1=1 and 0<0+1*" + deep + " then 1 else 2 end";
+        }
+        truth("1=2 or 1=1 and 0<0+1*" + deep, 1, 0);
+        truth("1=2 or 1=1 and 1<0+1*" + deep, 1, 2);
         // a later law strikes the earlier one
         GriddleTurn x = Check.told("plate heat 0;may:1=2;habit:0;cake 1;may:1=1;habit:1;");
         due("later may", 0, x.why(1));
