@@ -955,10 +955,6 @@ public final class GriddleTurn {
         private int heat;
         private int lines;
 
-        Plate() {
-            sizes[0] = 1;
-        }
-
         void empty() {
             fill(ups, MOST_CAKES, 0);
             may.strike();
@@ -1719,39 +1715,33 @@ public final class GriddleTurn {
             return NONE;
         }
 
-        /** A stack's mark is the start of the first walk through it; that of a walk tells how it ended. */
+        /** Marks are 1 for stacks that end right, else 0. */
         int howManyEndRight() {
             fill(marks, stacks.all, NONE);
-            int ending = 0;
+            marks[0] = 1;
+            int ending = 1;
             for (int start = 0; start < stacks.all; start++) {
-                if (marks[start] == NONE) {
-                    ending += markWalk(start);
-                }
+                ending += markWalk(start);
             }
             return ending;
         }
 
-        /** Marks all new stacks from a start on, 1 if they end right, else 0: how many end right. */
+        /** Marks all new stacks from a start on by where they lead: how many of them end right. */
         private int markWalk(int start) {
             int fresh = 0;
             int stack = start;
-            while (fresh < stacks.all && marks[stack] == NONE && stack != 0) {
+            while (fresh < stacks.all && marks[stack] == NONE) {
                 marks[stack] = 0;
                 stack = kitchen.followingOf(stack);
                 fresh++;
             }
-            boolean right = stack == 0 || marks[stack] == 1;
-            if (!right) {
+            if (marks[stack] != 1) {
                 return 0;
             }
             int again = start;
             for (int i = 0; i < fresh; i++) {
                 marks[again] = 1;
                 again = kitchen.followingOf(again);
-            }
-            if (marks[0] == NONE) {
-                marks[0] = 1;
-                return fresh + 1;
             }
             return fresh;
         }

@@ -176,6 +176,9 @@ public final class AgainstPlainTest {
         int kind = below(3);
         int most = x.count(0);
         for (int i = 0; i < n; i++) {
+            if (below(6) == 0) {
+                continue;
+            }
             long v = kind == 0 ? below(most + 1) : kind == 1 ? below(20) : 1 + below(most);
             v = below(40) == 0 ? random.nextLong() >> below(64) : v;
             same("write(" + tray + ", " + i + ", " + v + ")", y.write(tray, i, v), x.write(tray, i, v));

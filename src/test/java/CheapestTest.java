@@ -60,6 +60,9 @@ public final class CheapestTest {
         // from 3 by a turn of 2 only, from then on of 1 if 2 is on top
         GriddleTurn x = Check.told("plate heat 0;" + TWO[3] + "may:many=2 and top=1 and up=2 or [heat=0 and not up=2];");
         way(x, 0, 9, 2, 1, 2, 1);
+        // a turn of 1 from 3 on were as cheap, but may not be
+        GriddleTurn alike = Check.told("plate heat 0;" + TWO[3] + "may:not [up=2 and top=1 and many=1];");
+        way(alike, 0, 9, 2, 1, 2, 1);
         x.heat(1);
         due("can't be", -1, x.cheapest(0, 0));
         due("can't be", -1, x.cheapest(0, 1));

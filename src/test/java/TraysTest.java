@@ -35,6 +35,8 @@ public final class TraysTest {
         due("in place of it", 0, x.numbers(0, 1, 40));
         due("all 0", 40, x.perform(0));
         due("heat", 9, x.count(1));
+        x.write(0, 0, 99);
+        x.write(0, 1, 99);
         due("shorter", 0, x.numbers(0, 1, 2));
         due("two", 2, x.perform(0));
     }
