@@ -319,11 +319,37 @@ public final class EdgesSearchTest {
         due("above 32 bits", 1, one.at((1L << 32) + 1));
         due("above 31 bits", 1, one.at((1L << 31) + 1));
         edges.says(Edges.TERMS, "GOING: TURNS by HABIT, for ever (also if none is turned).");
+        leadAndLength();
         for (String law : HABITS) {
             for (int[] stack : new int[][] {{1}, {-2, 1}, {3, 1, -2}, {1, 2, 3}, {2, -4, 1, 3}, {-1, -2, 5, 4, 3}}) {
                 going(law, stack, far);
             }
         }
+    }
+
+    /** Runs with turns ahead of the round and a round of three and more: no two places of it are taken for another. */
+    private static void leadAndLength() {
+        int found = 0;
+        for (String law : new String[] {"habit:up*3;", "habit:2-up*up;", "habit:under-up*up;"}) {
+            for (int[] stack : Texts.stacks(4)) {
+                GriddleTurn x = lying(law, stack);
+                int lead = x.round(0);
+                int length = x.round(1);
+                if (lead < 1 || 2 * lead % length == 0) {
+                    continue;
+                }
+                found++;
+                GriddleTurn by = lying(law, stack);
+                by.habits(lead);
+                for (int n = lead; n < lead + 2 * length; n++) {
+                    String name = law + Texts.cakes(stack) + " behind " + n;
+                    due(name, by.lies(0), x.at(n));
+                    due(name + " and very many rounds", by.lies(0), x.at(n + length * 1000000000L));
+                    by.habits(1);
+                }
+            }
+        }
+        due("there are such runs", 1, found > 0 ? 1 : 0);
     }
 
     private static void going(String law, int[] stack, long far) {
@@ -404,6 +430,33 @@ public final class EdgesSearchTest {
             }
             due(law + " of three", many, lying(law, -2, 3, 1).tidy());
         }
+        for (String law : HABITS) {
+            due(law + " of four", endRight(law, 4), lying(law, -2, 4, 3, 1).tidy());
+            due(law + " of five", endRight(law, 5), lying(law, -2, 5, 4, 3, 1).tidy());
+        }
+    }
+
+    /** From how many it comes so, each stack being asked where one turn by habit leads. */
+    private static int endRight(String law, int n) {
+        List<int[]> stacks = Texts.stacks(n);
+        int[] next = new int[stacks.size()];
+        GriddleTurn x = new GriddleTurn();
+        for (int s = 0; s < next.length; s++) {
+            // an object is for 512 calls
+            x = s % 40 == 0 ? new GriddleTurn() : x;
+            Check.tell(x, "plate heat 0;" + Texts.cakes(stacks.get(s)) + law);
+            x.habits(1);
+            next[s] = x.lies(0);
+        }
+        int many = 0;
+        for (int s = 0; s < next.length; s++) {
+            int at = s;
+            for (int i = 0; i < next.length && at != 0; i++) {
+                at = next[at];
+            }
+            many += at == 0 ? 1 : 0;
+        }
+        return many;
     }
 
     private static void soon() {

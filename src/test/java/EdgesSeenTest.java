@@ -129,6 +129,25 @@ public final class EdgesSeenTest {
 
     private static void turned() {
         edges.says(30, "Of how many the i-th TURN can have been in some of these, as bits (bit k; 0: there are none).");
+        // the first turn can be, the second can't: so there are none at all
+        GriddleTurn end = lying("may:up=1;", -1);
+        end.numbers(0, 0, 1);
+        due("one turn can be", 2, end.turned(0, 0));
+        due("by 1", 1, end.seenBy(0, 0));
+        end.numbers(0, 0, 2);
+        due("no second one", 0, end.seen(0));
+        for (int i = 0; i < 2; i++) {
+            due("so not the first one either", 0, end.turned(0, i));
+            due("none", -1, end.seenBy(0, i));
+        }
+        // by 2 first there is no way on, by 1 there is: 1 up, 2 leads to 1, 2 where 2 may be turned
+        GriddleTurn fork = lying("may:top=1 and [many=1 and up=1 or many=2];", -1, 2);
+        Check.fillTray(fork, 0, 0, 0, 2);
+        due("by one row", 1, fork.seen(0));
+        due("by 1 alone", 2, fork.turned(0, 0));
+        due("by 2 alone", 4, fork.turned(0, 1));
+        due("by 1", 1, fork.seenBy(0, 0));
+        due("by 2", 2, fork.seenBy(0, 1));
         for (int cakes = 1; cakes <= 5; cakes++) {
             GriddleTurn x = lying("", Texts.stacks(cakes).get(0));
             GriddleTurn still = lying(STILL, Texts.stacks(cakes).get(0));
@@ -296,6 +315,16 @@ public final class EdgesSeenTest {
         attempt("habit:1;may:heat=0;", 0, 1, 2);
         // sets of as many k that are not the same: 5 and 5 against 10
         attempt("habit:0;may:heat<5 and many=1 or heat>4 and many=2;", 1, 1, 2);
+        // sets that differ by the least k alone, by the greatest alone
+        attempt("habit:0;may:many>1 or heat<5;", 1, 1, 2);
+        attempt("habit:0;may:many>1 or heat<5;", 1, 1, 2, 3, 4, 5);
+        attempt("habit:0;may:many<5 or heat<5;", 1, 1, 2, 3, 4, 5);
+        // these are 0 and 1: by all heats it would be 8 against 6, and 8 against 9
+        attempt("habit:if heat<2 then heat else 2 end;may:many<3 or heat>5;", 0, 1, 2, 3);
+        attempt("habit:if heat<2 then 1 else 2 end;may:many<3 or heat=0;", 1, 1, 2, 3);
+        // these are 2, 4 and 6, no two of them next to each other
+        attempt("habit:if heat=2 or heat=4 or heat=6 then 1 else 2 end;may:many<3 or heat=4;", 1, 1, 2, 3);
+        attempt("habit:if heat=2 or heat=6 then 1 else if heat=4 then 0 else 2 end end;", 0, 1, 2, 3);
         // three sets, 4 and 3 and 3, against two stacks, 5 and 5, and the other way round
         attempt("habit:if heat<5 then 1 else 0 end;may:many=1 or heat<4 and many=2 or heat<7 and many=3;", 1, 1, 2, 3);
         attempt("habit:if heat<4 then 1 else 0 end;may:many=1 or heat<7 and many=2;", 0, 1, 2, 3);

@@ -15,6 +15,7 @@ public final class EdgesTextTest {
         plates();
         latestFault();
         longTexts();
+        cutTexts();
         heads();
         sizes();
         tokens();
@@ -232,6 +233,43 @@ public final class EdgesTextTest {
         faulty(laws.substring(0, 899) + ";", 2, 899);
         faulty(HEAD + "cake 2;" + " ".repeat(880), 3, 900);
         faulty(" ".repeat(900), 2, 900);
+    }
+
+    /** What lies on the tape behind the n bytes makes no other text of them, also if a token would go on. */
+    private static void cutTexts() {
+        edges.says(3, "The first n bytes of THE TAPE (which is empty then) are THE PLATE");
+        String whole = "plate heat 12;cake 1 up;may:many=12;habit:if top<3 then 1 else 0 end;\n";
+        for (String text : new String[] {whole, whole.replace("heat 12", "heat 1")}) {
+            for (int n = 0; n <= text.length(); n++) {
+                GriddleTurn alone = new GriddleTurn();
+                int answer = Check.tell(alone, text.substring(0, n));
+                for (String behind : new String[] {"", "p", "1", ";", "?", "up"}) {
+                    GriddleTurn x = new GriddleTurn();
+                    String tape = text.substring(0, n) + behind.repeat(30) + (behind.isEmpty() ? text.substring(n) : "");
+                    for (int at = 0; at < tape.length(); at += 20) {
+                        x.feed(Check.four(tape, at), Check.four(tape, at + 4), Check.four(tape, at + 8),
+                                Check.four(tape, at + 12), Check.four(tape, at + 16));
+                    }
+                    String name = shown(text.substring(0, n)) + " ahead of " + shown(behind);
+                    due(name, answer, x.plate(n));
+                    due(name + " fault(1)", alone.fault(1), x.fault(1));
+                }
+            }
+        }
+        GriddleTurn y = new GriddleTurn();
+        y.feed(0x706c6174, 0x65206865, 0x61742031, 0x313b2020, 0x20202020);
+        due("'plate heat 1' ahead of '1;'", -32, y.plate(12));
+        due("the end", 12, y.fault(1));
+        // the 900th byte is the last one of a word, of an N, a blank
+        String head = HEAD + "cake 1" + " ".repeat(870);
+        faulty(head + " ".repeat(900 - head.length() - 2) + "up", 2, 900);
+        faulty(head + " ".repeat(900 - head.length() - 3) + "upp", 2, 897);
+        faulty(head + " ".repeat(900 - head.length() - 1) + "u", 2, 899);
+        faulty(head + " ".repeat(900 - head.length()), 2, 900);
+        String last = " ".repeat(888) + "plate heat ";
+        faulty(last + "1", 2, 900);
+        faulty(last.substring(1) + "10", 3, 898);
+        faulty(last.substring(3) + "1234", 1, 896);
     }
 
     private static void heads() {
