@@ -126,7 +126,8 @@ public final class EdgesSearchTest {
     /** All stacks of one to three, and of four some, against rows looked through in the order of the document. */
     private static void cheapestOfLike() {
         edges.says(Edges.TERMS, "the least WORK of a ROW, of like ones the fewest TURNS, of like ones the first.");
-        String[] laws = {"", "may:not many=2;", "may:many>1 or top=1;", "may:many=1 or up<2 or under=0;"};
+        String[] laws = {"", "may:not many=2;", "may:many>1 or top=1;", "may:many=1 or up<2 or under=0;",
+            "may:heat=0 and many<4;"};
         for (String law : laws) {
             for (int n = 1; n <= 4; n++) {
                 List<int[]> stacks = Texts.stacks(n);
@@ -232,6 +233,40 @@ public final class EdgesSearchTest {
             due("hardest(" + aim + ", 2)", -2, one.hardest(aim, 2));
         }
         firstOfHardest();
+        farthest();
+    }
+
+    /** Laws of five by which the hardest stacks are very hard, held against all turns that there are. */
+    private static void farthest() {
+        String[] laws = {"may:top<2+up and not many<3;", "may:not many=under and many>3 or many=under*up-up;",
+            "may:many=up*under and many<under*2 or many>3;", "may:many>2 and not 9<up*top;"};
+        List<int[]> stacks = Texts.stacks(5);
+        for (String law : laws) {
+            Turns turns = new Turns("plate heat 0;", law, 5);
+            GriddleTurn x = lying(law, 5, 4, 3, 2, 1);
+            for (int aim = 0; aim < 3; aim++) {
+                boolean[] aimed = new boolean[stacks.size()];
+                for (int s = 0; s < aimed.length; s++) {
+                    aimed[s] = aim == 0 ? s == 0 : aim == 1 ? s < 32 : s % 32 == 0;
+                }
+                int[] least = turns.least(aimed);
+                int first = 0;
+                int from = 0;
+                for (int s = 0; s < least.length; s++) {
+                    first = least[s] > least[first] ? s : first;
+                    from += least[s] >= 0 ? 1 : 0;
+                }
+                due(law + " hardest(" + aim + ", 0)", least[first], x.hardest(aim, 0));
+                due(law + " hardest(" + aim + ", 1)", first, x.hardest(aim, 1));
+                due(law + " hardest(" + aim + ", 2)", from, x.hardest(aim, 2));
+                for (int s = 0; s < least.length && aim == 0; s += 29) {
+                    due(law + " stack(" + s + ", 2)", least[s], x.stack(s, 2));
+                }
+                for (int s = first % 53; s < least.length; s += 53) {
+                    due(law + Texts.cakes(stacks.get(s)) + aim, least[s], lying(law, stacks.get(s)).cheapest(aim, 0));
+                }
+            }
+        }
     }
 
     /** Of like ones the first number: held against each stack by itself. */

@@ -395,6 +395,31 @@ public final class EdgesSeenTest {
                 }
             }
         }
+        for (String law : new String[] {"may:many<2 or many=top;", "may:many=1 or many=6-top;", "may:many>1 and not many=top;",
+            "may:many=up or many<up-1 or 3>under+up;", "may:many<4 and under>top;"}) {
+            forcingFive(law);
+        }
+    }
+
+    /** Of five, some by many turns, some never. */
+    private static void forcingFive(String law) {
+        List<int[]> stacks = Texts.stacks(5);
+        Turns turns = new Turns("plate heat 0;", law, 5);
+        for (int size = 1; size <= 5; size++) {
+            boolean[] there = new boolean[stacks.size()];
+            for (int s = 0; s < there.length; s++) {
+                there[s] = Math.abs(stacks.get(s)[0]) == size;
+            }
+            int[] forced = turns.forced(there);
+            int last = 0;
+            for (int s = 0; s < there.length; s++) {
+                last = forced[s] > forced[last] ? s : last;
+            }
+            due(law + " the last one of size " + size, forced[last], lying(law, stacks.get(last)).forces(size));
+            for (int s = size; s < there.length; s += 61) {
+                due(law + Texts.cakes(stacks.get(s)) + size, forced[s], lying(law, stacks.get(s)).forces(size));
+            }
+        }
     }
 
     /** By the words alone: whether it is forced within n turns from a stack on, the first one being next or not. */
