@@ -337,6 +337,19 @@ public final class EdgesDeedsTest {
             due("breakfast(-1, " + times + ")", -3, x.breakfast(-1, times));
         }
         state(x, "none was done", 0, 0, 0, 0);
+        edges.says(Edges.TERMS, "A BREAKFAST by a SEED (x, an int; a DRAW: x becomes 1103515245 x + 12345, it is x >>> 16)");
+        // x is 12345, the draw 0: the deed 0
+        GriddleTurn zero = Check.told("plate heat 5;cake 1;cake 2;cake 3;habit:2;");
+        due("by seed 0", 1, zero.breakfast(0, 1));
+        state(zero, "by seed 0", zero.lies(0), 5, 3, 1);
+        // x is 1103527590, the draw 16838; then above an int, 2524885223, the draw 38526 (not below 0): the deed 0
+        GriddleTurn unit = Check.told("plate heat 5;cake 1;cake 2;cake 3;habit:2;");
+        due("by seed 1", 1, unit.breakfast(1, 1));
+        state(unit, "by seed 1", zero.lies(0), 5, 3, 1);
+        // x is 3191464396, below 0 as an int, the draw 48697; then 288979989, the draw 4409: the deed 5
+        GriddleTurn below = Check.told("plate heat 5;cake 1;cake 2;cake 3;cake 4;cake 5;");
+        due("by seed -1", 1, below.breakfast(-1, 1));
+        due("by seed -1", 15, below.count(2));
         edges.says(Edges.TERMS, "so many times (1 to 40): DRAW modulo 4: 0 the DEED 0; 1, 2 the DEED DRAW modulo 6; "
                 + "3 HEAT DRAW modulo 10; as in a TRAY, if it can be.");
         int[] seeds = {0, 1, -1, 2, 3, 4, 5, 6, 7, 8, 9, 65535, 65536, -65536, 1 << 30, Integer.MIN_VALUE,

@@ -13,6 +13,7 @@ public final class EdgesSearchTest {
         cheapest();
         way();
         cheapestOfLike();
+        likeRows();
         rows();
         hardest();
         asHard();
@@ -136,6 +137,39 @@ public final class EdgesSearchTest {
                 }
             }
         }
+    }
+
+    /** Rows of like work and of as many turns: by none of the others would a lesser k come first. */
+    private static void likeRows() {
+        edges.says(Edges.TERMS, "Of like ROWS the first by k.");
+        int like = 0;
+        for (int n = 2; n <= 4; n++) {
+            Turns turns = new Turns("plate heat 0;", "", n);
+            boolean[] down = new boolean[turns.to.length];
+            for (int s = 0; s < down.length; s++) {
+                down[s] = s % (1 << n) == 0;
+            }
+            int[] fewest = turns.fewest(down);
+            for (int s = 0; s < down.length; s++) {
+                GriddleTurn x = lying("", Texts.stacks(n).get(s));
+                int at = s;
+                for (int i = 0; fewest[at] % Turns.WORK > 0; i++) {
+                    int first = 0;
+                    int ways = 0;
+                    for (int k = n; k >= 1; k--) {
+                        int then = turns.to[at][k];
+                        if (fewest[then] + turns.work[at][k] * Turns.WORK + 1 == fewest[at]) {
+                            first = k;
+                            ways++;
+                        }
+                    }
+                    like += ways > 1 ? 1 : 0;
+                    due(Texts.cakes(Texts.stacks(n).get(s)) + " way(2, " + i + ")", first, x.way(2, i));
+                    at = turns.to[at][first];
+                }
+            }
+        }
+        due("there are like rows", 1, like > 0 ? 1 : 0);
     }
 
     private static void rowOf(String told) {
@@ -539,6 +573,19 @@ public final class EdgesSearchTest {
     }
 
     private static void lies() {
+        edges.says(26, "How it lies, what 0: the STACK's number, 1: how many STACKS there are, 2: how many lie RIGHT");
+        int[] all = {0, 2, 8, 48, 384, 3840};
+        for (int n = 1; n <= 5; n++) {
+            List<int[]> stacks = Texts.stacks(n);
+            GriddleTurn first = lying("", stacks.get(0));
+            due("the first of " + n, 0, first.lies(0));
+            due("all of " + n, all[n], first.lies(1));
+            due("all lie right", n, first.lies(2));
+            GriddleTurn last = lying("", stacks.get(all[n] - 1));
+            due("the last of " + n, all[n] - 1, last.lies(0));
+            due("all of " + n, all[n], last.lies(1));
+            due("none lies right", 0, last.lies(2));
+        }
         edges.says(26, "how many two of which the upper one is greater");
         lies(new int[] {0, 2, 1, 0, 0, 1}, 1);
         lies(new int[] {1, 2, 0, 0, 0, 1}, -1);

@@ -281,6 +281,23 @@ public final class EdgesSeenTest {
         GriddleTurn one = new GriddleTurn();
         Check.fillTray(one, 0, 0, 1);
         due("all", 1023, one.heats(0));
+        edges.says(Edges.TERMS, "BY HABIT in a TRAY (so, but each 1 and more, TURNS by HABIT): HEATS 0 to 9 by which it is so.");
+        Check.fillTray(one, 0, 0, 0);
+        due("0 is not 1 and more", -3, one.heats(0));
+        Check.fillTray(one, 0, 0, 1, 0);
+        due("0 is not 1 and more", -3, one.heats(0));
+        Check.fillTray(one, 0, 0, -1);
+        due("nor is -1", -3, one.heats(0));
+        for (int heat = 0; heat <= 9; heat++) {
+            GriddleTurn just = lying("habit:if heat=" + heat + " then 2 else 1 end;", 1, 2);
+            Check.fillTray(just, 0, 0, 2);
+            due("just " + heat, 1L << heat, just.heats(0));
+        }
+        for (int heat = 10; heat <= 12; heat++) {
+            GriddleTurn just = lying("habit:if heat=" + heat + " then 2 else 1 end;", 1, 2);
+            Check.fillTray(just, 0, 0, 2);
+            due("there is no heat " + heat, 0, just.heats(0));
+        }
         // a turn by habit by which none is turned is one, too
         GriddleTurn still = lying(STILL, 2, 1);
         Check.fillTray(still, 0, 0, 2, 2, 2);

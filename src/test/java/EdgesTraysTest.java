@@ -91,6 +91,16 @@ public final class EdgesTraysTest {
     }
 
     private static void write() {
+        edges.says(Edges.TERMS, ", or have 0 to 40 numbers of 8 bits (sort 0), 16 (1), 32 (2), 64 (3).");
+        long[] all = {-1, 127, 128, 255, 256, 32767, 32768, 65535, 65536, (1L << 31) - 1, 1L << 31, (1L << 32) - 1, 1L << 32};
+        long[][] there = {{-1, 127, -128, -1, 0, -1, 0, -1, 0, -1, 0, -1, 0},
+            {-1, 127, 128, 255, 256, 32767, -32768, -1, 0, -1, 0, -1, 0},
+            {-1, 127, 128, 255, 256, 32767, 32768, 65535, 65536, (1L << 31) - 1, -(1L << 31), -1, 0}, all};
+        for (int sort = 0; sort < 4; sort++) {
+            for (int i = 0; i < all.length; i++) {
+                cut(sort, all[i], there[sort][i]);
+            }
+        }
         edges.says(38, "Number i of a TRAY is v, cut to its sort: as it is there.");
         long[] bounds = {1L << 7, 1L << 15, 1L << 31};
         for (int sort = 0; sort < 3; sort++) {

@@ -33,6 +33,13 @@ public final class RefusedTest {
         byTheLaw();
         edges.says(Edges.TERMS, "-30 less the FAULT: a text.");
         faults();
+        edges.says(Edges.TERMS, "-2 there is none such; -3 a number can't be; -4 too many; -5 it can't be now; "
+                + "-6 a TRAY is MISSING; -7 it has no such number;");
+        codes();
+        edges.says(Edges.TERMS, "(Of several that which the call tells first; all these ahead of NONE.)");
+        several();
+        severalOfTrays();
+        aheadOfNone();
         edges.says(Edges.TERMS, "nothing else being done");
         asked();
         edges.end(0, 0);
@@ -320,6 +327,101 @@ public final class RefusedTest {
         refusedIn(0, "Promise 41: restore(1)", -5, x -> x.restore(1));
         refusedIn(1, "Promise 41: restore(1)", -5, x -> x.restore(1));
         refusedIn(3, "Promise 41: restore(0)", -5, x -> x.restore(0));
+    }
+
+    /** Each code once, by itself. */
+    private static void codes() {
+        refusedIn(1, "Promise 5: cake(3, 0)", -2, x -> x.cake(3, 0));
+        refusedIn(1, "Promise 10: habits(100)", -3, x -> x.habits(100));
+        refusedIn(2, "Promise 28: seen(0)", -4, x -> x.seen(0));
+        refusedIn(2, "Promise 2: feed", -5, x -> x.feed(0, 0, 0, 0, 0));
+        refusedIn(1, "Promise 13: judge(3, 0)", -6, x -> x.judge(3, 0));
+        refusedIn(1, "Promise 38: write(2, 0, 0)", -7, x -> x.write(2, 0, 0));
+    }
+
+    /** Two and more reasons at once, in calls without a tray. */
+    private static void several() {
+        for (int bad : new int[] {LOW, -1, 5, FAR}) {
+            refused("Promise 5: neither cake nor what", -2, x -> x.cake(bad, bad));
+            refused("Promise 7: what ahead of it can't be", -2, x -> x.by(0, bad));
+            refused("Promise 7: what ahead of it can't be", -2, x -> x.by(bad, bad));
+            refused("Promise 16: neither aim nor what", -2, x -> x.cheapest(bad, bad));
+            refused("Promise 17: the aim ahead of i", -2, x -> x.way(bad, -1));
+            refused("Promise 18: the aim ahead of n", -2, x -> x.rows(bad, -1));
+            refused("Promise 18: the aim ahead of n", -2, x -> x.rows(bad, 10));
+            refused("Promise 19: neither aim nor what", -2, x -> x.hardest(bad, bad));
+            refused("Promise 20: the aim ahead of n", -2, x -> x.asHard(bad, -1));
+            refused("Promise 27: what ahead of the number", -2, x -> x.stack(-1, bad));
+            refused("Promise 27: what ahead of the number", -2, x -> x.stack(3840, bad));
+            refused("Promise 35: the aim ahead of n", -2, x -> x.chance(bad, 8, 0));
+            refused("Promise 35: what ahead of n", -2, x -> x.chance(0, 8, bad));
+            refused("Promise 35: both ahead of n", -2, x -> x.chance(bad, -1, bad));
+            refused("Promise 36: what ahead of n", -2, x -> x.mean(8, bad));
+            refused("Promise 36: what ahead of n", -2, x -> x.mean(-1, bad));
+        }
+        // no such k ahead of the law by which none may be
+        refusedIn(3, "Promise 9: turn(0)", -11, x -> x.turn(0));
+        refusedIn(3, "Promise 9: turn(3)", -11, x -> x.turn(3));
+        refusedIn(3, "Promise 6: why(3)", 1, x -> x.why(3));
+    }
+
+    private static void severalOfTrays() {
+        for (int bad : new int[] {LOW, -1, 4, FAR}) {
+            refused("Promise 13: neither tray nor what", -2, x -> x.judge(bad, bad));
+            refusedIn(0, "Promise 13: what ahead of MISSING", -2, x -> x.judge(0, bad));
+            refused("Promise 29: the tray ahead of i", -2, x -> x.seenBy(bad, -1));
+            refused("Promise 30: the tray ahead of i", -2, x -> x.turned(bad, -1));
+            refused("Promise 37: the tray ahead of n", -2, x -> x.numbers(bad, 0, -1));
+            refused("Promise 37: the sort ahead of n", -2, x -> x.numbers(0, bad, 41));
+            refused("Promise 38: the tray ahead of the place", -2, x -> x.write(bad, -1, 0));
+            refused("Promise 39: the tray ahead of the number", -2, x -> x.lists(bad, -1));
+        }
+        for (int i : new int[] {LOW, -1, 8, 40, FAR}) {
+            refusedIn(0, "Promise 29: MISSING ahead of i", -6, x -> x.seenBy(0, i));
+            refusedIn(0, "Promise 30: MISSING ahead of i", -6, x -> x.turned(0, i));
+            refusedIn(0, "Promise 38: MISSING ahead of the place", -6, x -> x.write(0, i, 0));
+            refusedIn(0, "Promise 39: MISSING ahead of the number", -6, x -> x.lists(0, i == 8 ? 2 : i));
+            refusedIn(1, "Promise 29: no numbers ahead of i", -4, x -> x.seenBy(2, i));
+            refusedIn(1, "Promise 30: no numbers ahead of i", -4, x -> x.turned(2, i));
+            refusedIn(2, "Promise 29: 40 numbers ahead of i", -4, x -> x.seenBy(1, i));
+            refusedIn(2, "Promise 30: 40 numbers ahead of i", -4, x -> x.turned(1, i));
+            // 12 and 19 are no sizes
+            refusedIn(1, "Promise 30: no size ahead of no such turn", -3, x -> x.turned(0, i));
+            refusedIn(1, "Promise 29: no size ahead of NONE", -3, x -> x.seenBy(0, i));
+        }
+        // tray 1 of 40 numbers, one of them 18
+        refusedIn(2, "Promise 28: too many ahead of no size", -4, x -> x.seen(1));
+        refusedIn(2, "Promise 31: too many ahead of no size", -4, x -> x.heats(1));
+        refusedIn(2, "Promise 32: too many ahead of no size", -4, x -> x.attempt(1));
+    }
+
+    /** Where without the refusal there would be none. */
+    private static void aheadOfNone() {
+        String still = "plate heat 0;cake 2;cake 1 up;may:1=2;";
+        for (int aim = 0; aim < 3; aim++) {
+            edges.due("Promise 16: it can't be", -1, Check.told(still).cheapest(aim, 0));
+            edges.due("Promise 16: what", -2, Check.told(still).cheapest(aim, 2));
+            edges.due("Promise 17: it can't be", -1, Check.told(still).way(aim, 0));
+            edges.due("Promise 17: i", -3, Check.told(still).way(aim, -1));
+        }
+        GriddleTurn x = Check.told(still);
+        edges.due("Promise 27: it can't be", -1, x.stack(7, 2));
+        edges.due("Promise 27: the number", -3, x.stack(8, 2));
+        edges.due("Promise 33: never", -1, x.forces(1));
+        edges.due("Promise 33: no such size", -2, x.forces(3));
+        edges.due("Promise 34: it doesn't", -1, x.best(1));
+        edges.due("Promise 34: no such size", -2, x.best(0));
+        x.numbers(0, 0, 2);
+        edges.due("Promise 29: there are none", -1, x.seenBy(0, 0));
+        edges.due("Promise 29: not so many", -1, x.seenBy(0, 2));
+        edges.due("Promise 29: i", -3, x.seenBy(0, -1));
+        Check.fillTray(x, 0, 0, 1);
+        edges.due("Promise 32: there are none", -1, x.attempt(0));
+        Check.fillTray(x, 0, 0, 1, 0);
+        edges.due("Promise 32: no size", -3, x.attempt(0));
+        Check.fillTray(x, 0, 0, 0, 0);
+        edges.due("Promise 13: each can be", -1, x.judge(0, 0));
+        edges.due("Promise 13: what", -2, x.judge(0, 4));
     }
 
     private static void byTheLaw() {

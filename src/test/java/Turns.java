@@ -3,6 +3,9 @@ import java.util.List;
 
 /** Where each turn leads from each stack of so many, and by which work, as by() tells; -1 where it can't be. */
 final class Turns {
+    /** Work counts so many in fewest(), a turn 1. */
+    static final int WORK = 10000;
+
     final int[][] to;
     final int[][] work;
 
@@ -24,8 +27,18 @@ final class Turns {
         }
     }
 
-    /** The least work from each stack to those that are aimed at, -1 if it can't be; looked through till nothing changes. */
+    /** The least work from each stack to those that are aimed at, -1 if it can't be. */
     int[] least(boolean[] aimed) {
+        return least(aimed, 1, 0);
+    }
+
+    /** So, but of like work the fewest turns, too: WORK times the one and the other one. */
+    int[] fewest(boolean[] aimed) {
+        return least(aimed, WORK, 1);
+    }
+
+    /** Looked through till nothing changes. */
+    private int[] least(boolean[] aimed, int ofWork, int ofTurn) {
         int[] least = new int[to.length];
         for (int s = 0; s < least.length; s++) {
             least[s] = aimed[s] ? 0 : -1;
@@ -36,8 +49,9 @@ final class Turns {
             for (int s = 0; s < least.length; s++) {
                 for (int k = 1; k < to[s].length; k++) {
                     int then = to[s][k];
-                    if (then >= 0 && least[then] >= 0 && (least[s] < 0 || least[then] + work[s][k] < least[s])) {
-                        least[s] = least[then] + work[s][k];
+                    int more = work[s][k] * ofWork + ofTurn;
+                    if (then >= 0 && least[then] >= 0 && (least[s] < 0 || least[then] + more < least[s])) {
+                        least[s] = least[then] + more;
                         changed = true;
                     }
                 }
