@@ -941,7 +941,10 @@ public final class GriddleTurn {
                     v = a | b;
                     break;
             }
-            return (int) Math.max(-GREATEST, Math.min(GREATEST, v));
+            if (v < -GREATEST) {
+                return (int) -GREATEST;
+            }
+            return (int) (v > GREATEST ? GREATEST : v);
         }
     }
 
@@ -1287,32 +1290,25 @@ public final class GriddleTurn {
             kind = next - place > 3 ? NO_TOKEN : NUMBER;
         }
 
+        /** The kind of the word that was just taken: letter by letter along all words there are. */
         private int wordKind() {
             int word = FACT;
-            int begin = 0;
+            int at = place;
+            boolean alike = true;
             for (int i = 0; i < WORDS.length(); i++) {
-                if (WORDS.charAt(i) == ' ') {
-                    if (isSpelled(begin, i)) {
-                        return word;
-                    }
+                char letter = WORDS.charAt(i);
+                if (letter != ' ') {
+                    alike = alike && at < next && tape[at] == letter;
+                    at++;
+                } else if (alike && at == next) {
+                    return word;
+                } else {
                     word++;
-                    begin = i + 1;
+                    at = place;
+                    alike = true;
                 }
             }
             return OTHER_WORD;
-        }
-
-        /** Whether the token is spelled as the words are from a begin to an end. */
-        private boolean isSpelled(int begin, int stop) {
-            if (next - place != stop - begin) {
-                return false;
-            }
-            for (int i = begin; i < stop; i++) {
-                if (tape[place + i - begin] != WORDS.charAt(i)) {
-                    return false;
-                }
-            }
-            return true;
         }
 
         private static boolean isLetter(int c) {
@@ -1340,6 +1336,7 @@ public final class GriddleTurn {
         private final int[] orderRight = new int[MOST_ORDERS];
         private final int[] sidesTurned = new int[MOST_SIDES * KS];
         private final int[] sidesRight = new int[MOST_SIDES];
+        private final int[] sidesUp = new int[MOST_SIDES];
         private final int[] row = new int[MOST_CAKES];
 
         Stacks() {
@@ -1426,6 +1423,7 @@ public final class GriddleTurn {
                 right++;
             }
             sidesRight[side] = right;
+            sidesUp[side] = Integer.bitCount(side);
             for (int k = 0; k <= cakes; k++) {
                 int then = 0;
                 for (int i = 0; i < cakes; i++) {
@@ -1474,7 +1472,7 @@ public final class GriddleTurn {
         }
 
         int upsOf(int stack) {
-            return Integer.bitCount(stack & sides - 1);
+            return sidesUp[stack & sides - 1];
         }
 
         int rightOf(int stack) {

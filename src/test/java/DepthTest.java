@@ -13,7 +13,10 @@ import java.util.regex.Matcher;
 import java.util.regex.Pattern;
 import java.util.spi.ToolProvider;
 
-/** Rule 11 of LANGUAGE.md: calls that are no recursion go at most eight deep, counted from the face on. */
+/**
+ * Rule 11 of LANGUAGE.md: calls that are no recursion go at most eight deep, counted from the face on,
+ * a call of the library being one of them.
+ */
 public final class DepthTest {
     private static final Check CHECK = new Check("DepthTest");
     private static final Map<String, Set<String>> CALLS = new HashMap<>();
@@ -53,7 +56,7 @@ public final class DepthTest {
         PrintWriter writer = new PrintWriter(text);
         ToolProvider.findFirst("javap").orElseThrow().run(writer, writer, "-c", "-p", "-s", file.getPath());
         String type = file.getName().replace(".class", "");
-        Pattern call = Pattern.compile("(?:Interface)?Method (?:(GriddleTurn[\\w$]*)\\.)?([\\w\"<>]+):(\\S+)");
+        Pattern call = Pattern.compile("(?:Interface)?Method (?:([\\w$/]+)\\.)?([\\w\"<>]+):(\\S+)");
         String name = "";
         String method = "";
         for (String line : text.toString().split("\n")) {
@@ -65,7 +68,7 @@ public final class DepthTest {
                 CALLS.putIfAbsent(method, new LinkedHashSet<>());
             } else if (line.contains("invoke") && !method.isEmpty()) {
                 Matcher called = call.matcher(line);
-                if (called.find() && !line.contains("Method java/")) {
+                if (called.find()) {
                     String in = called.group(1) == null ? type : called.group(1);
                     CALLS.get(method).add(in + "." + called.group(2).replace("\"", "") + ":" + called.group(3));
                 }

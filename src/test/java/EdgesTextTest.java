@@ -19,6 +19,7 @@ public final class EdgesTextTest {
         heads();
         sizes();
         tokens();
+        likeWords();
         order();
         ends();
         standing();
@@ -394,6 +395,31 @@ public final class EdgesTextTest {
         faulty("plate heat 1;PLATE", 1, 13);
         faulty("plate heat 1;habit:top/2;", 1, 22);
         faulty("plate heat 1;may:1=1&2=2;", 1, 20);
+    }
+
+    /** Each word of a text, with a letter less, more or another one: a word still, which can't stand there. */
+    private static void likeWords() {
+        edges.says(Edges.TERMS, "2 it can't stand there");
+        String[] tokens = ("plate heat 3 ; cake 2 up ; cake 1 ; may : not top = 1 and under < up or many = heat ; "
+                + "habit : if right = 1 then top else right end ;").split(" ");
+        String whole = String.join(" ", tokens);
+        int at = 0;
+        for (String word : tokens) {
+            String rest = whole.substring(at + word.length());
+            String[] like = Character.isLetter(word.charAt(0)) ? likes(word) : new String[0];
+            for (String other : like) {
+                faulty(whole.substring(0, at) + other + rest, 2, at);
+                faulty(whole.substring(0, at) + other, 2, at);
+            }
+            at += word.length() + 1;
+        }
+        fine(whole, 5);
+    }
+
+    private static String[] likes(String word) {
+        int last = word.length() - 1;
+        return new String[] {word.substring(0, last), word.substring(1), word + word.charAt(last), word + word,
+            word.charAt(0) + word, word + "s", word.substring(0, last) + "z", "z" + word.substring(1)};
     }
 
     private static void order() {
